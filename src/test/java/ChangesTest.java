@@ -180,5 +180,11 @@ public final class ChangesTest {
         Check.same("a cursor stays open", x.cursor(0, 2), 1);
         Check.same("undo of all that came", x.undo() + x.undo() + x.undo(), 6);
         Check.members("undo", x, 0, "0 1");
+        x.remove(1, 0);
+        x.remove(1, 7);
+        Check.same("cells behind the last member count for nothing", x.unite(0, 1), 2);
+        Check.members("unite(0, 1)", x, 0, "0 1 63 2");
+        x.clear(1);
+        Check.same("unite with an empty set", x.unite(0, 1), 0);
     }
 }

@@ -10,7 +10,7 @@ public final class LanguageTest {
     private static final String[] FORBIDDEN = {
         "\\bcatch\\b", "\\bfinally\\b", "\\bsynchronized\\b", "\\bassert\\b", "->", "::", "\\bvar\\b",
         "\\bstatic\\s*\\{", "\\bpackage\\b", "\\bprotected\\b", "\\bequals\\b", "\\bhashCode\\b",
-        "\\bExact\\b", "\\bThread\\b", "\\bRandom\\b", "\\bNaN\\b", "\\bObject\\b",
+        "Exact\\b", "\\bThread\\b", "\\bRandom\\b", "\\bNaN\\b", "\\bObject\\b",
     };
     private static final String THROWN = "throw new (IndexOutOfBounds|IllegalArgument|IllegalState)Exception\\(\"\"\\);";
     private static final int LONGEST_METHOD = 60;

@@ -14,11 +14,12 @@ public final class ModelTest {
     private static Model model;
     private static final List<Model> undo = new ArrayList<>();
     private static final Model[] slots = new Model[2];
-    private static String told;
+    private static String told = "";
 
     public static void main(String[] args) {
         for (int i = 0; i < TEXTS && Check.isFine(); i++) {
             seed = i;
+            begin();
             compareText(i % 3 == 0 ? anyText() : i % 3 == 1 ? fineText() : spoiled(fineText()));
         }
         for (int i = 0; i < RUNS && Check.isFine(); i++) {
@@ -82,30 +83,42 @@ public final class ModelTest {
     }
 
     private static void compareText(String text) {
-        x = new TwinSets();
-        told = "parse(\"" + text + "\")";
+        told = told + "\nparse(\"" + text + "\")";
         int code = 0;
         int position = -1;
-        model = new Model();
         try {
             model = Model.parsed(text);
+            undo.clear();
+            slots[0] = null;
+            slots[1] = null;
         } catch (Model.ParseError e) {
             code = e.code;
             position = e.position;
         }
         Check.same(told, Check.parse(x, text), code);
         Check.same(told + ", errorPosition()", x.errorPosition(), position);
-        undo.clear();
         compareAll();
     }
 
     // ---- changes
 
+    private static void begin() {
+        x = new TwinSets();
+        model = new Model();
+        undo.clear();
+        told = "";
+    }
+
     private static void run() {
+        begin();
         compareText(fineText());
-        slots[0] = null;
-        slots[1] = null;
         for (int i = 0; i < CHANGES && Check.isFine(); i++) {
+            if (below(40) == 0) {
+                compareText(below(2) == 0 ? fineText() : spoiled(fineText()));
+            }
+            if (model.sets.isEmpty()) {
+                compareText(fineText());
+            }
             change();
             if (i % 5 == 0 || i > CHANGES - 5) {
                 compareAll();

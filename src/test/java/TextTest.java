@@ -5,7 +5,9 @@ public final class TextTest {
         append();
         parseFine();
         parseNothingChanges();
+        parseManyTimes();
         parseRange();
+        parseCutsTokens();
         errors();
         limits();
         statements();
@@ -103,6 +105,44 @@ public final class TextTest {
         Check.same("restoreSnapshot after an error", x.restoreSnapshot(1), 3);
         Check.same("parse without an error", Check.parse(x, "sets 1 1;"), 0);
         Check.same("errorPosition", x.errorPosition(), -1);
+    }
+
+    private static void parseManyTimes() {
+        TwinSets x = new TwinSets();
+        String[] fine = {"sets 8 2;set a;set b;add a 3 5 1 0;mark;clear a;add b 7 6 5;", "sets 9 9;set b;set c;add c 4;"};
+        String[] wrong = {"", "sets", "set 1 1;", "sets 0 1;", "sets 5 0;", "sets 5 5", "sets 3 3;set d;add d 2;mark;x"};
+        for (int i = 0; i < 7; i++) {
+            // One between the two, so that each text follows each.
+            Check.same("parse of the one between", i % 3 == 0 ? Check.parse(x, "sets 1 1;") : 0, 0);
+            String text = fine[i % 2];
+            Check.same("parse, time " + i, Check.parse(x, text), 0);
+            Check.same("as a new one, time " + i, UndoTest.look(x).equals(UndoTest.look(Check.sets(text))), true);
+            x.open(0, false);
+            x.open(1, false);
+            x.open(1, true);
+            x.step(1);
+            x.removeMet(1);
+            x.mark();
+            String before = UndoTest.look(x);
+            for (String bad : wrong) {
+                Check.same("parse of \"" + bad + "\"", Check.parse(x, bad) != 0, true);
+                Check.same("nothing changes by \"" + bad + "\"", UndoTest.look(x).equals(before), true);
+            }
+            Check.same("find d", Check.find(x, "d"), -1);
+        }
+    }
+
+    private static void parseCutsTokens() {
+        TwinSets x = new TwinSets();
+        Check.append(x, "sets 1 1;set abcdefghij;");
+        Check.same("a word that is cut", x.parse(21), 1);
+        Check.same("errorPosition", x.errorPosition(), 21);
+        Check.append(x, "sets 1 1000;");
+        Check.same("a number that is cut", x.parse(10), 3);
+        Check.same("errorPosition", x.errorPosition(), 7);
+        Check.append(x, "sets 1 1 ;");
+        Check.same("spaces that are cut", x.parse(8), 1);
+        Check.same("errorPosition", x.errorPosition(), 8);
     }
 
     private static void parseRange() {

@@ -4,6 +4,7 @@ public final class UndoTest {
         everyChangeCanBeUndone();
         historyOfTen();
         whatIsNoChange();
+        whatLaterChangesWroteOver();
         snapshots();
         snapshotsHoldEverything();
         slotsThatDoNotExist();
@@ -151,6 +152,33 @@ public final class UndoTest {
         x.errorPosition();
         Check.same("changes", x.size(7), changes);
         Check.same("undo", x.undo(), changes - 1);
+    }
+
+    private static void whatLaterChangesWroteOver() {
+        TwinSets x = Check.sets("sets 9 4;set a;set b;add a 1 2;add b 5;");
+        x.mark();
+        x.open(0, true);
+        x.step(0);
+        String before = look(x);
+        x.saveSnapshot(1);
+        x.undo();
+        x.undo();
+        x.undo();
+        x.remove(0, 1);
+        x.add(0, 1);
+        x.mark();
+        x.open(1, false);
+        x.restoreSnapshot(1);
+        same("restoreSnapshot behind undo and other changes", look(x), before);
+        x.close(0);
+        x.remove(0, 1);
+        x.add(0, 1);
+        x.open(1, false);
+        x.undo();
+        x.undo();
+        x.undo();
+        x.undo();
+        same("undo of what stands in the same place", look(x), before);
     }
 
     private static void snapshots() {
