@@ -1,4 +1,7 @@
+import java.io.IOException;
 import java.nio.charset.StandardCharsets;
+import java.nio.file.Files;
+import java.nio.file.Path;
 import java.util.Arrays;
 
 /** What the tests share: they count wrong answers here and end with exit code 1 if there was one. */
@@ -8,8 +11,42 @@ final class Check {
     }
 
     private static int wrong = 0;
+    private static String document = "";
+    private static String about = "";
 
     private Check() {
+    }
+
+    /**
+     * Names the sentence that the checks behind this call are for. It must stand in the section of the
+     * document, "Terms" or "Promise 1" to "Promise 34", word by word.
+     */
+    static void sentence(String section, String words) {
+        about = section + ", \"" + words + "\": ";
+        if (!section(section).contains(words)) {
+            report("the document does not say so");
+        }
+    }
+
+    private static String section(String heading) {
+        if (document.isEmpty()) {
+            document = read(Path.of("../shared/DOC.md"));
+        }
+        for (String section : document.split("\n## ")) {
+            if (section.startsWith(heading + ":") || section.startsWith(heading + "\n")) {
+                return section.replaceAll("\\s+", " ");
+            }
+        }
+        return "";
+    }
+
+    private static String read(Path path) {
+        try {
+            return Files.readString(path);
+        } catch (IOException e) {
+            report(path + " cannot be read");
+            return "";
+        }
     }
 
     static void same(String call, long got, long due) {
@@ -21,6 +58,12 @@ final class Check {
     static void same(String call, double got, double due) {
         if (got != due) {
             report(call + " answered " + got + ", due is " + due);
+        }
+    }
+
+    static void same(String call, String got, String due) {
+        if (!got.equals(due)) {
+            report(call + "\n  left   " + got + "\n  due is " + due);
         }
     }
 
@@ -58,7 +101,7 @@ final class Check {
     static void report(String text) {
         wrong++;
         if (wrong <= 50) {
-            System.out.println(text);
+            System.out.println(about + text);
         }
     }
 
@@ -105,6 +148,13 @@ final class Check {
         TwinSets sets = new TwinSets();
         same("parse(\"" + text + "\")", parse(sets, text), 0);
         return sets;
+    }
+
+    /** Parses a text in a new object; code 0 and position -1 are due for a text without an error. */
+    static void error(String text, int code, int position) {
+        TwinSets sets = new TwinSets();
+        same("parse(\"" + text + "\")", parse(sets, text), code);
+        same("position in \"" + text + "\"", sets.errorPosition(), position);
     }
 
     static int find(TwinSets sets, String text) {

@@ -11,58 +11,6 @@ public final class UndoTest {
         Check.end();
     }
 
-    /** All that can be seen of an object, but for the changes that can be undone. */
-    static String look(TwinSets x) {
-        StringBuilder seen = new StringBuilder();
-        for (int what = 0; what < 7; what++) {
-            seen.append(x.size(what)).append(' ');
-        }
-        for (int mark = 0; mark < 8; mark++) {
-            seen.append(x.marked(mark)).append(' ');
-        }
-        for (int set = 0; set < x.size(0); set++) {
-            lookAtSet(x, set, seen);
-        }
-        for (int cursor = 0; cursor < 6; cursor++) {
-            lookAtCursor(x, cursor, seen);
-        }
-        return seen.toString();
-    }
-
-    private static void lookAtSet(TwinSets x, int set, StringBuilder seen) {
-        seen.append("| ");
-        for (int what = 0; what < 5; what++) {
-            seen.append(x.set(set, what)).append(' ');
-        }
-        for (int number = 0; number < x.size(1); number++) {
-            seen.append(x.cell(set, number, false)).append(',').append(x.cell(set, number, true)).append(',')
-                    .append(x.stampOf(set, number)).append(',').append(x.since(set, number)).append(' ');
-        }
-        for (int k = 0; k < x.set(set, 3); k++) {
-            for (int part = 0; part < 3; part++) {
-                seen.append(x.event(set, k, part)).append(' ');
-            }
-        }
-        seen.append(x.at(set, x.set(set, 2)));
-    }
-
-    private static void lookAtCursor(TwinSets x, int cursor, StringBuilder seen) {
-        try {
-            seen.append("* ").append(x.ahead(cursor)).append(' ');
-            for (int what = 0; what < 7; what++) {
-                seen.append(x.cursor(cursor, what)).append(' ');
-            }
-        } catch (IndexOutOfBoundsException e) {
-            seen.append("none ");
-        }
-    }
-
-    private static void same(String when, String got, String due) {
-        if (!got.equals(due)) {
-            Check.report(when + "\n  left   " + got + "\n  due is " + due);
-        }
-    }
-
     private static TwinSets busy() {
         TwinSets x = Check.sets("sets 9 4;set a;set b;add a 0 1 2 3 4;add b 7 3 8;mark;clear b;add b 1 3 5;");
         x.open(0, false);
@@ -97,18 +45,18 @@ public final class UndoTest {
     private static void everyChangeCanBeUndone() {
         for (int which = 0; which < 14; which++) {
             TwinSets x = busy();
-            String before = look(x);
+            String before = Look.all(x);
             int changes = x.size(7);
             change(x, which);
             Check.same("changes behind change " + which, x.size(7), changes + 1);
             Check.same("undo of change " + which, x.undo(), changes);
             Check.same("changes behind undo " + which, x.size(7), changes);
-            same("undo of change " + which, look(x), before);
+            Check.same("undo of change " + which, Look.all(x), before);
             change(x, which);
-            String after = look(x);
+            String after = Look.all(x);
             x.undo();
             change(x, which);
-            same("change " + which + " anew", look(x), after);
+            Check.same("change " + which + " anew", Look.all(x), after);
         }
     }
 
@@ -138,7 +86,7 @@ public final class UndoTest {
     private static void whatIsNoChange() {
         TwinSets x = busy();
         int changes = x.size(7);
-        look(x);
+        Look.all(x);
         x.at(0, 8);
         x.differs(0, 8, 9, true);
         x.fullest(0);
@@ -159,7 +107,7 @@ public final class UndoTest {
         x.mark();
         x.open(0, true);
         x.step(0);
-        String before = look(x);
+        String before = Look.all(x);
         x.saveSnapshot(1);
         x.undo();
         x.undo();
@@ -169,7 +117,7 @@ public final class UndoTest {
         x.mark();
         x.open(1, false);
         x.restoreSnapshot(1);
-        same("restoreSnapshot behind undo and other changes", look(x), before);
+        Check.same("restoreSnapshot behind undo and other changes", Look.all(x), before);
         x.close(0);
         x.remove(0, 1);
         x.add(0, 1);
@@ -178,7 +126,7 @@ public final class UndoTest {
         x.undo();
         x.undo();
         x.undo();
-        same("undo of what stands in the same place", look(x), before);
+        Check.same("undo of what stands in the same place", Look.all(x), before);
     }
 
     private static void snapshots() {
@@ -220,16 +168,16 @@ public final class UndoTest {
         for (int which = 0; which < 14; which++) {
             TwinSets x = busy();
             x.saveSnapshot(0);
-            String before = look(x);
+            String before = Look.all(x);
             change(x, which);
             x.saveSnapshot(1);
-            String after = look(x);
+            String after = Look.all(x);
             Check.same("restoreSnapshot(0)", x.restoreSnapshot(0), 12);
-            same("restoreSnapshot(0) behind change " + which, look(x), before);
+            Check.same("restoreSnapshot(0) behind change " + which, Look.all(x), before);
             change(x, which);
-            same("change " + which + " behind restoreSnapshot", look(x), after);
+            Check.same("change " + which + " behind restoreSnapshot", Look.all(x), after);
             x.restoreSnapshot(1);
-            same("restoreSnapshot(1) behind change " + which, look(x), after);
+            Check.same("restoreSnapshot(1) behind change " + which, Look.all(x), after);
         }
     }
 
