@@ -12,11 +12,30 @@ final class Check {
 
     private static final Path DOCUMENT = Path.of("../shared/DOC.md");
 
+    // A test takes seconds; one that takes so long has met a call that does not end.
+    private static final long LONGEST_TEST = 300_000;
+
     private static int wrong = 0;
     private static String document = "";
-    private static String about = "";
+    private static volatile String about = "";
+
+    static {
+        Thread guard = new Thread(Check::endWhatDoesNotEnd);
+        guard.setDaemon(true);
+        guard.start();
+    }
 
     private Check() {
+    }
+
+    private static void endWhatDoesNotEnd() {
+        try {
+            Thread.sleep(LONGEST_TEST);
+            System.out.println(about + "a call does not end");
+            Runtime.getRuntime().halt(1);
+        } catch (InterruptedException e) {
+            Thread.currentThread().interrupt();
+        }
     }
 
     /**
