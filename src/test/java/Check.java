@@ -45,12 +45,17 @@ final class Check {
      */
     static void sentence(String section, String words) {
         about = section + ", \"" + words + "\": ";
-        if (Files.exists(DOCUMENT) && !section(section).contains(words)) {
+        if (hasDocument() && !section(section).contains(words)) {
             report("the document does not say so");
         }
     }
 
-    private static String section(String heading) {
+    static boolean hasDocument() {
+        return Files.exists(DOCUMENT);
+    }
+
+    /** A section of the document, with one space where it has spaces and line feeds. */
+    static String section(String heading) {
         if (document.isEmpty()) {
             document = read(DOCUMENT);
         }

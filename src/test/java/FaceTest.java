@@ -51,18 +51,33 @@ public final class FaceTest {
         for (String member : FACE) {
             due.add(member);
         }
-        TreeSet<String> got = members();
-        TreeSet<String> missing = new TreeSet<>(due);
-        missing.removeAll(got);
-        got.removeAll(due);
-        for (String member : missing) {
-            Check.report("missing: " + member);
-        }
-        for (String member : got) {
-            Check.report("not in the document: " + member);
+        compare("the class", members(), due);
+        if (Check.hasDocument()) {
+            compare("the document", documentedMembers(), due);
         }
         checkPrivateNames();
         Check.end();
+    }
+
+    private static void compare(String where, TreeSet<String> got, TreeSet<String> due) {
+        for (String member : due) {
+            Check.same(where + " has " + member, got.contains(member), true);
+        }
+        for (String member : got) {
+            Check.same(where + " has, beyond the face, " + member, due.contains(member), true);
+        }
+    }
+
+    // The face as the document writes it, without the names of the parameters and the value of NONE.
+    private static TreeSet<String> documentedMembers() {
+        String section = Check.section("The public face");
+        TreeSet<String> members = new TreeSet<>();
+        for (String member : section.substring(section.indexOf('{') + 1, section.lastIndexOf('}')).split(";")) {
+            if (!member.isBlank()) {
+                members.add(member.trim().replace(" = -1", "").replaceAll("(int|boolean) \\w+([,)])", "$1$2").replace(", ", ","));
+            }
+        }
+        return members;
     }
 
     private static TreeSet<String> members() {

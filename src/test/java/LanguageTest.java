@@ -1,11 +1,15 @@
 import java.io.IOException;
+import java.lang.reflect.Constructor;
+import java.lang.reflect.Field;
+import java.lang.reflect.Method;
+import java.lang.reflect.Modifier;
 import java.nio.file.Files;
 import java.nio.file.Path;
 import java.util.List;
 import java.util.regex.Matcher;
 import java.util.regex.Pattern;
 
-/** The rules of LANGUAGE.md that a look at the words of src/main/java/TwinSets.java can tell. */
+/** The rules of LANGUAGE.md that a look at the words and the shape of src/main/java/TwinSets.java can tell. */
 public final class LanguageTest {
     private static final String[] FORBIDDEN = {
         "\\bcatch\\b", "\\bfinally\\b", "\\bsynchronized\\b", "\\bassert\\b", "->", "::", "\\bvar\\b",
@@ -15,6 +19,8 @@ public final class LanguageTest {
     private static final String THROWN = "throw new (IndexOutOfBounds|IllegalArgument|IllegalState)Exception\\(\"\"\\);";
     private static final int LONGEST_METHOD = 60;
     private static final int MOST_CLASSES = 12;
+    private static final int MOST_PARAMETERS = 7;
+    private static final int MOST_FIELDS = 20;
 
     public static void main(String[] args) throws IOException {
         List<String> lines = Files.readAllLines(Path.of("src/main/java/TwinSets.java"));
@@ -26,10 +32,35 @@ public final class LanguageTest {
         checkWords(bare);
         checkClasses(bare);
         checkMethods(bare.split("\n"));
+        checkShape(TwinSets.class);
+        for (Class<?> inside : TwinSets.class.getDeclaredClasses()) {
+            Check.same("static: " + inside, Modifier.isStatic(inside.getModifiers()), true);
+            Check.same("neither public nor protected: " + inside,
+                    (inside.getModifiers() & (Modifier.PUBLIC | Modifier.PROTECTED)) == 0, true);
+            checkShape(inside);
+        }
         Check.end();
     }
 
+    // Rules 5 and 11: static fields are final, and methods and classes stay small.
+    private static void checkShape(Class<?> shape) {
+        int fields = 0;
+        for (Field field : shape.getDeclaredFields()) {
+            boolean isStatic = Modifier.isStatic(field.getModifiers());
+            Check.same("final: " + field, !isStatic || Modifier.isFinal(field.getModifiers()), true);
+            fields += isStatic ? 0 : 1;
+        }
+        Check.same("at most 20 fields: " + shape, fields <= MOST_FIELDS, true);
+        for (Method method : shape.getDeclaredMethods()) {
+            Check.same("at most 7 parameters: " + method, method.getParameterCount() <= MOST_PARAMETERS, true);
+        }
+        for (Constructor<?> constructor : shape.getDeclaredConstructors()) {
+            Check.same("at most 7 parameters: " + constructor, constructor.getParameterCount() <= MOST_PARAMETERS, true);
+        }
+    }
+
     private static void checkWords(String code) {
+        Check.same("all signs of the source are 1 to 127", code.chars().allMatch(sign -> sign >= 1 && sign <= 127), true);
         for (String forbidden : FORBIDDEN) {
             if (Pattern.compile(forbidden).matcher(code).find()) {
                 Check.report("the source holds " + forbidden);
